@@ -1,0 +1,19 @@
+/** Runs every test of the project. */
+public final class AllTests {
+    private AllTests() {
+    }
+
+    public static void main(String[] args) throws Exception {
+        FaceTest.run();
+        TextTest.run();
+        FamilyTest.run();
+        DaysTest.run();
+        ForetoldTest.run();
+        SeenTest.run();
+        RandomRunsTest.run();
+        System.out.println(Check.passed + " passed, " + Check.failed + " failed");
+        if (Check.failed != 0) {
+            System.exit(1);
+        }
+    }
+}
