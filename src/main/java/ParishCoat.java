@@ -945,7 +945,8 @@ public final class ParishCoat {
 
         boolean agreeWith(Told told, int quota) {
             for (int i = 0; i < size; i++) {
-                if (told.weightOfSet(sets[i], nights[i]) >= quota != outcomes[i]) {
+                boolean outcome = told.weightOfSet(sets[i], nights[i]) >= quota;
+                if (outcome != outcomes[i]) {
                     return false;
                 }
             }

@@ -10,6 +10,7 @@ final class DaysTest {
         dayOfOne();
         dayByWeights();
         dayRefused();
+        dayFull();
         undo();
         undoFavour();
         keepAndBack();
@@ -121,6 +122,23 @@ final class DaysTest {
         Check.refused(x, "day(0)", () -> x.day(0), -4);
         Check.due("he is 0", x.family(0, 3), 0);
         Check.due("day(1)", x.day(1), 2);
+    }
+
+    /** No 512 calls reach it, but the promise names it. */
+    private static void dayFull() {
+        Check.part("9 full");
+        ParishCoat x = Check.told("bone 5 10;bone 4 20;cold 0;quota 1");
+        for (int i = 0; i < 999; i++) {
+            Check.due("day " + i, x.day(i % 3 - 1), 0);
+        }
+        Check.due("the day", x.count(1), 999);
+        Check.refused(x, "day(-1)", () -> x.day(-1), -5);
+        Check.refused(x, "day(0)", () -> x.day(0), -5);
+        Check.refused(x, "day(2)", () -> x.day(2), -2);
+        Check.due("turns go on", x.turns(2, 1), 40);
+        Check.due("undo()", x.undo(), 7);
+        Check.due("day(0)", x.day(0), 0);
+        Check.refused(x, "day(0)", () -> x.day(0), -5);
     }
 
     private static void undo() {

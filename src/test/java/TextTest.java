@@ -68,7 +68,7 @@ final class TextTest {
         Check.fault("", 0);
         Check.fault("   ", 3);
         for (String word : new String[] {"thread", "Bone 1 1", "5", ";", "bon", "bones 1 1", "colds", "coatmild",
-            "b one 1 1", "coa", "!", "\u00e9", "\t", "\0"}) {
+            "b one 1 1", "coa", "told 5", "wild", "mildz", "amild", "toat", "!", "\u00e9", "\t", "\0"}) {
             Check.fault(word, 0);
             Check.fault("mild; " + word, 6);
         }
