@@ -13,6 +13,7 @@ final class TextTest {
         faultsOfNumbers();
         faultsByWhatIsTold();
         tokens();
+        lettersErased();
         mostClauses();
         coatDoes();
         coatStaysAndGoes();
@@ -159,6 +160,21 @@ final class TextTest {
         Check.fault("quota 1,2", 7);
         Check.fault("MILD", 0);
         Check.fault("mild\n", 4);
+    }
+
+    private static void lettersErased() {
+        Check.part("4 letters erased");
+        ParishCoat x = new ParishCoat();
+        Check.fault(x, "cold 40;mild", -1);
+        Check.fault(x, "cold ", 5);
+        Check.fault(x, "cold 4", -1);
+        Check.fault(x, "cold 40;mil", 8);
+        Check.fault(x, "cold 40;", 8);
+        Check.fault(" ".repeat(160), 160);
+        Check.fault(" ".repeat(156) + "cold", 160);
+        Check.fault(" ".repeat(156) + "mild", -1);
+        Check.fault(" ".repeat(155) + "mild;", 160);
+        Check.fault(" ".repeat(155) + "cold4", -1);
     }
 
     private static void mostClauses() {
