@@ -10,6 +10,9 @@ public final class AllTests {
         DaysTest.run();
         ForetoldTest.run();
         SeenTest.run();
+        TextBoundsTest.run();
+        ButtonBoundsTest.run();
+        DayBoundsTest.run();
         RandomRunsTest.run();
         System.out.println(Check.passed + " passed, " + Check.failed + " failed");
         if (Check.failed != 0) {
