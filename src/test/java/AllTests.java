@@ -13,6 +13,7 @@ public final class AllTests {
         TextBoundsTest.run();
         ButtonBoundsTest.run();
         DayBoundsTest.run();
+        ForetoldBoundsTest.run();
         RandomRunsTest.run();
         System.out.println(Check.passed + " passed, " + Check.failed + " failed");
         if (Check.failed != 0) {
