@@ -14,6 +14,7 @@ public final class AllTests {
         ButtonBoundsTest.run();
         DayBoundsTest.run();
         ForetoldBoundsTest.run();
+        SeenBoundsTest.run();
         RandomRunsTest.run();
         System.out.println(Check.passed + " passed, " + Check.failed + " failed");
         if (Check.failed != 0) {
