@@ -15,6 +15,7 @@ public final class AllTests {
         DayBoundsTest.run();
         ForetoldBoundsTest.run();
         SeenBoundsTest.run();
+        GridTest.run();
         RandomRunsTest.run();
         System.out.println(Check.passed + " passed, " + Check.failed + " failed");
         if (Check.failed != 0) {

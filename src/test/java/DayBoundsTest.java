@@ -33,6 +33,7 @@ final class DayBoundsTest {
         undoTheLastEight();
         undoFromFullBackAgain();
         undoFavours();
+        undoAndBackOfSeven();
         undoLeavesTheRest();
         undoOfRefusedCalls();
         keepUnknown();
@@ -437,6 +438,30 @@ final class DayBoundsTest {
         Check.due("a favour", x.undo(), 0);
         Check.due("0 does not", x.family(0, 4), 0);
         Check.due("undo()", x.undo(), -4);
+    }
+
+    private static void undoAndBackOfSeven() {
+        Check.part("Promises 10 to 12: undone and kept of each FAMILY, the first to the seventh");
+        ParishCoat x = Check.told("bone 9 1;bone 9 1;bone 9 1;bone 9 1;bone 9 1;bone 9 1;bone 9 1;quota 1;cold 14");
+        for (int f = 0; f < 7; f++) {
+            int other = (f + 1) % 7;
+            x.keep(f % 2);
+            x.favour(f, other, 1);
+            x.day(other);
+            String after = Check.state(x);
+            Check.due("FAVOURS", x.family(f, 4), 1 << other);
+            Check.due("his HEALTH goes by his own way", x.family(other, 3) == x.family((f + 3) % 7, 3) ? 1 : 0, 0);
+            x.undo();
+            Check.due("undone, the DAY of " + f, x.count(6), 140);
+            x.undo();
+            Check.due("undone, FAVOURS of " + f, x.family(f, 4), 0);
+            x.favour(f, other, 1);
+            x.day(other);
+            Check.due("the same again", Check.state(x).equals(after) ? 1 : 0, 1);
+            Check.due("back()", x.back(f % 2), 0);
+            Check.due("as kept, FAVOURS of " + f, x.family(f, 4), 0);
+            Check.due("as kept, HEALTH", x.family(other, 3), 20);
+        }
     }
 
     private static void undoLeavesTheRest() {

@@ -32,11 +32,13 @@ final class ForetoldBoundsTest {
         winEverybody();
         winNone();
         winAtTheBounds();
+        winByTheWeightsOfTheDay();
         winLeastOfSeveral();
         winFrozenFavourer();
         winFrozenCannotBeWon();
         blockNobodyNeeded();
         blockNone();
+        blockAllOthers();
         blockAtTheCold();
         blockLeastOfSeveral();
         blockWithoutFrozen();
@@ -425,6 +427,24 @@ final class ForetoldBoundsTest {
         }
     }
 
+    private static void winByTheWeightsOfTheDay() {
+        Check.part("Terms: FORETOLD 'on this DAY', WIN");
+        ParishCoat x = Check.told("brass 9 4;loose 9 5;bone 9 6;quota 2;cold 0");
+        int[][] much = {{5, 4, 4}, {0, 4, 4}};
+        int[][] which = {{2, 1, 1}, {0, 1, 1}};
+        for (int day = 0; day < 4; day++) {
+            for (int f = 0; f < 3; f++) {
+                Check.due("win(" + f + ", 0) on " + day, x.win(f, 0), much[day % 2][f]);
+                Check.due("win(" + f + ", 1) on " + day, x.win(f, 1), which[day % 2][f]);
+            }
+            x.day(-1);
+        }
+        ParishCoat y = Check.told("loose 9 1;loose 9 2;loose 9 3;quota 1;cold 0;cold 5");
+        Check.due("by day he carries it alone", y.win(0, 1), 0);
+        y.day(-1);
+        Check.due("by night LOOSE ones carry nothing", y.win(0, 1), -1);
+    }
+
     private static void winLeastOfSeveral() {
         Check.part("Terms: WIN 'of several the least (bits)'");
         ParishCoat x = Check.told("bone 9 5;bone 9 5;bone 9 5;bone 9 10;quota 2;cold 0");
@@ -474,6 +494,16 @@ final class ForetoldBoundsTest {
         ParishCoat cold = Check.told("bone 1 1;bone 9 1;cold 0");
         Check.due("nothing is below COLD 0", cold.block(0), -1);
         Check.due("one alone, no others", Check.told("bone 9 1;cold 4").block(0), -1);
+    }
+
+    private static void blockAllOthers() {
+        Check.part("Promise 19: all others are needed");
+        for (int many = 2; many <= 7; many++) {
+            ParishCoat x = Check.told("bone 9 1;".repeat(many) + "cold 5");
+            for (int f = 0; f < many; f++) {
+                Check.due("block(" + f + ") of " + many, x.block(f), (1 << many) - 1 & ~(1 << f));
+            }
+        }
     }
 
     private static void blockAtTheCold() {
@@ -659,15 +689,23 @@ final class ForetoldBoundsTest {
         Check.due("one yet", x.turns(1, 0), 1);
         Check.due("1 asks", x.turns(1, 2), 1);
         Check.due("HEALTH", x.turns(1, 1), 16);
-        ParishCoat all = Check.told("bone 9 1;bone 9 1;cold 40");
-        for (int day = 0; day < 3; day++) {
-            all.day(-1);
+        for (int many = 1; many <= 7; many++) {
+            turnsOfAllFrozen(many);
         }
+    }
+
+    private static void turnsOfAllFrozen(int many) {
+        ParishCoat x = Check.told("bone 9 1;".repeat(many) + "quota 1;cold 40;cold 4;cold 40;cold 40");
+        x.day(-1);
+        Check.due("0 would ask before", x.turns(1, 2), 0);
+        x.day(-1);
+        x.day(-1);
+        Check.due("all freeze", x.day(-1), (1 << many) - 1);
         for (int n = 0; n <= 4; n++) {
-            Check.due("all are FROZEN", all.turns(n, 0), 2);
-            Check.due("no HEALTH", all.turns(n, 1), 0);
+            Check.due("all are FROZEN", x.turns(n, 0), many);
+            Check.due("no HEALTH", x.turns(n, 1), 0);
             for (int what = 2; what < 6; what++) {
-                Check.due("nobody", all.turns(n, what), -1);
+                Check.due("nobody", x.turns(n, what), -1);
             }
         }
     }

@@ -30,6 +30,7 @@ final class TextBoundsTest {
         clausesNoneIsTooFew();
         clausesCutShort();
         wordsAsWritten();
+        wordsOneLetterOff();
         coatAllAsAtFirst();
         favourUnlike();
         favourKnownOnes();
@@ -187,6 +188,11 @@ final class TextBoundsTest {
         Check.tell(x, "coat;" + buttons(2));
         Check.tell(x, "favour 0 1;coat;" + buttons(2));
         Check.due("none behind coat", x.family(0, 4) + x.family(1, 4), 0);
+        Check.tell(x, "favour 0 1");
+        Check.tell(x, "coat;bone 1 1");
+        Check.due("nor of one who is not there any more", x.family(0, 4), 0);
+        Check.tell(x, "bone 1 1");
+        Check.due("nor of one who comes in his place", x.family(0, 4), 0);
     }
 
     private static void quota() {
@@ -414,6 +420,23 @@ final class TextBoundsTest {
             String[] parts = clause.split(" ");
             Check.fault(Check.told(buttons(2)), clause.replace(parts[0], parts[0] + "s"), 0);
             Check.fault(Check.told(buttons(2)), clause.substring(1), 0);
+        }
+    }
+
+    private static void wordsOneLetterOff() {
+        Check.part("Terms: words 'as written here', one letter off");
+        String[] clauses = {"coat", "bone 1 1", "brass 1 1", "pearl 1 1", "loose 1 1", "favour 0 1", "feud 0 1",
+            "quota 1", "cold 1", "mild"};
+        for (String clause : clauses) {
+            ParishCoat x = Check.told(buttons(2));
+            int word = clause.split(" ")[0].length();
+            for (int i = 0; i < word; i++) {
+                for (char other : new char[] {'x', 'Q', '1', '!'}) {
+                    Check.fault(x, clause.substring(0, i) + other + clause.substring(i + 1), 0);
+                }
+                Check.fault(x, clause.substring(0, i) + clause.substring(i + 1), 0);
+                Check.fault(x, clause.substring(0, i) + " " + clause.substring(i), i == 0 ? -1 : 0);
+            }
         }
     }
 
