@@ -344,6 +344,11 @@ final class DayBoundsTest {
             Check.due("the DAY", x.count(1), day);
             x.day(day % 2 - 1);
         }
+        ParishCoat y = new ParishCoat();
+        for (int day = 0; day < 511; day++) {
+            Check.due("day(-1)", y.day(-1), 0);
+        }
+        Check.due("the 512th call", y.count(1), 511);
     }
 
     private static void undoNone() {
