@@ -419,8 +419,7 @@ public final class ParishCoat {
     }
 
     private boolean isWonBy(int doneUp) {
-        return told.weightOfSet(doneUp, now.isNight()) >= told.quota
-            && told.warmthOfSet(doneUp) >= told.coldOn(now.date);
+        return told.isCarriedBy(doneUp, now.isNight()) && told.warmthOfSet(doneUp) >= told.coldOn(now.date);
     }
 
     private static boolean isYesOrNo(int number) {
@@ -432,7 +431,7 @@ public final class ParishCoat {
     }
 
     private static boolean holds(int set, int family) {
-        return (set & bit(family)) != 0;
+        return (set >> family & 1) == 1;
     }
 
     private static int with(int set, int family, boolean on) {
@@ -579,6 +578,10 @@ public final class ParishCoat {
                 }
             }
             return weight;
+        }
+
+        boolean isCarriedBy(int set, boolean night) {
+            return weightOfSet(set, night) >= quota;
         }
 
         int warmthOfSet(int set) {
@@ -850,15 +853,16 @@ public final class ParishCoat {
         }
 
         boolean isCarriedFor(Told told, int family) {
-            return told.weightOfSet(doneUpFor(family), isNight()) >= told.quota;
+            return told.isCarriedBy(doneUpFor(family), isNight());
         }
 
         /** Those who are FROZEN by a day on which one asks, or nobody (NONE). */
         int passDay(Told told, int asker) {
             int frozenBefore = frozen;
             int cold = told.coldOn(date);
-            int wearer = isCarriedFor(told, asker) ? asker : NONE;
-            int lack = cold - told.warmthOfSet(doneUpFor(wearer));
+            int doneUp = doneUpFor(asker);
+            int wearer = told.isCarriedBy(doneUp, isNight()) ? asker : NONE;
+            int lack = cold - told.warmthOfSet(doneUp);
             for (int f = 0; f < told.families; f++) {
                 if (holds(frozenBefore, f)) {
                     continue;

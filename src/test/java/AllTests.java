@@ -5,6 +5,8 @@ public final class AllTests {
 
     public static void main(String[] args) throws Exception {
         FaceTest.run();
+        LanguageTest.run();
+        ReadmeTest.run();
         TextTest.run();
         FamilyTest.run();
         DaysTest.run();
