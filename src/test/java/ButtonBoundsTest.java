@@ -13,6 +13,7 @@ final class ButtonBoundsTest {
         familyHealthBounds();
         familyDoneUpOfFrozen();
         familyDoneUpWithoutFrozen();
+        familyFavoursOfFrozen();
         familyWeightOfFrozen();
         weightsByDayAndNight();
         asKinds();
@@ -106,6 +107,15 @@ final class ButtonBoundsTest {
         Check.due("day(2)", x.day(2), 4);
         Check.due("for 1, without 2", x.family(1, 5), 3);
         Check.due("2 favours still", x.family(2, 4), 2);
+    }
+
+    private static void familyFavoursOfFrozen() {
+        Check.part("Promise 6: 'whom it FAVOURS, by bits (4)', FROZEN ones, too");
+        ParishCoat x = Check.told("bone 1 1;bone 1 1;bone 1 1;favour 0 1;favour 0 2;favour 2 1;favour 1 0;quota 1;cold 40");
+        Check.due("day(1)", x.day(1), 2);
+        Check.due("0 favours the FROZEN one still", x.family(0, 4), 6);
+        Check.due("so does 2", x.family(2, 4), 2);
+        Check.due("the FROZEN one favours 0 still", x.family(1, 4), 1);
     }
 
     private static void familyWeightOfFrozen() {

@@ -9,6 +9,7 @@ final class DayBoundsTest {
     static void run() {
         favourWhatItWas();
         favourEveryPair();
+        favourTakenFromEveryPair();
         favourUnknown();
         favourHimself();
         favourOutside();
@@ -47,6 +48,7 @@ final class DayBoundsTest {
         backOfNoText();
         backNothingCanBeUndone();
         backLeavesSeen();
+        backLeavesTheText();
         backLeavesKept();
     }
 
@@ -88,6 +90,24 @@ final class DayBoundsTest {
         }
         for (int f = 0; f < 7; f++) {
             Check.due("all are done up for " + f, x.family(f, 5), 127);
+        }
+    }
+
+    private static void favourTakenFromEveryPair() {
+        Check.part("Promise 8: 'or not (0)', of what a text told");
+        for (int a = 0; a < 7; a++) {
+            for (int b = 0; b < 7; b++) {
+                if (a == b) {
+                    continue;
+                }
+                ParishCoat x = Check.told("bone 1 1;".repeat(7) + "favour " + a + " " + b + ";favour " + b + " " + a);
+                Check.due("favour(" + a + ", " + b + ", 0)", x.favour(a, b, 0), 1);
+                Check.due("whom he favours", x.family(a, 4), 0);
+                Check.due("the other favours him still", x.family(b, 4), 1 << a);
+                Check.due("for the other", x.family(b, 5), 1 << b);
+                Check.tell(x, "mild");
+                Check.due("as told", x.family(a, 4), 1 << b);
+            }
         }
     }
 
@@ -642,6 +662,24 @@ final class DayBoundsTest {
         x.forget();
         x.back(1);
         Check.due("none", x.count(7), 0);
+    }
+
+    private static void backLeavesTheText() {
+        Check.part("Promise 12: a winter is kept, THE TEXT is not of it");
+        ParishCoat x = someFrozen();
+        Check.due("written since it was kept", x.count(9), 7);
+        x.back(1);
+        Check.due("stays", x.count(9), 7);
+        Check.due("fault()", x.fault(), -1);
+        x.keep(0);
+        x.erase();
+        Check.write(x, "cold");
+        x.back(0);
+        Check.due("erased and written since", x.count(9), 4);
+        Check.due("fault()", x.fault(), 4);
+        x.erase();
+        x.back(0);
+        Check.due("erased since", x.count(9), 0);
     }
 
     private static void backLeavesKept() {

@@ -55,6 +55,7 @@ final class ForetoldBoundsTest {
         turnsOfNoFamilies();
         turnsOfColdsAgain();
         turnsAcrossNights();
+        turnsOfEachOnEachDay();
         turnsChangeNothing();
     }
 
@@ -459,6 +460,9 @@ final class ForetoldBoundsTest {
         ParishCoat z = Check.told("bone 9 1;bone 9 6;bone 9 6;bone 9 12;quota 2;cold 22");
         // 0 and 1 have 18, and with 2 27; 0, 1 and 3 have 22.
         Check.due("cheapest of two", z.win(0, 1), 6);
+        ParishCoat few = Check.told("bone 9 5;bone 9 5;pearl 9 10;bone 9 1;quota 3;cold 0");
+        Check.due("two (bits 3) or one (bits 4) for the same", few.win(3, 0), 10);
+        Check.due("are the two", few.win(3, 1), 3);
     }
 
     private static void winFrozenFavourer() {
@@ -528,6 +532,9 @@ final class ForetoldBoundsTest {
         ParishCoat y = Check.told("bone 1 1;bone 1 1;bone 1 1;bone 9 1;bone 9 1;cold 13");
         Check.due("the one", y.block(4), 8);
         Check.due("for the other", y.block(3), 16);
+        // 26 of all; 18 without 0 and 1 (bits 3), 12 without 2 (bits 4); 22 without 0, 20 without 1.
+        ParishCoat z = Check.told("bone 4 1;bone 4 1;bone 9 1;bone 9 1;cold 20");
+        Check.due("the one, though two are less by bits", z.block(3), 4);
     }
 
     private static void blockWithoutFrozen() {
@@ -753,6 +760,26 @@ final class ForetoldBoundsTest {
         int[] askers = {-1, 1, -1, 1};
         for (int i = 0; i < 4; i++) {
             Check.due("by nights alone, on " + i, nights.turns(4, 2 + i), askers[i]);
+        }
+    }
+
+    private static void turnsOfEachOnEachDay() {
+        Check.part("Promise 21: 'who asks on the i-th', each FAMILY on each DAY");
+        for (int f = 0; f < 7; f++) {
+            int beside = f == 0 ? 1 : f - 1;
+            // 2 could wear it too, where it is not he, but by two who are not side by side.
+            String second = f == 2 ? "mild" : "favour " + (f == 0 ? 4 : 0) + " 2";
+            ParishCoat x = Check.told("bone 9 1;".repeat(7) + "favour " + beside + " " + f + ";" + second + ";quota 2;cold 18");
+            Check.due("carried for 2", x.carried(2), 1);
+            x.day(-1);
+            x.day(-1);
+            // All have 14; who wears it has 2 more each day, others 3 less: a day left out is never made good.
+            for (int n = 1; n <= 4; n++) {
+                Check.due("HEALTH of " + n + " days for " + f, x.turns(n, 1), Math.min(20, 14 + 2 * n) + 6 * (14 - 3 * n));
+                for (int i = 0; i < n; i++) {
+                    Check.due(f + " asks on " + i + " of " + n, x.turns(n, 2 + i), f);
+                }
+            }
         }
     }
 
