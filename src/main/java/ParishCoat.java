@@ -28,8 +28,8 @@ public final class ParishCoat {
 
     private static final int[] FACTORIALS = {1, 1, 2, 6, 24, 120, 720, 5040};
 
-    private final Letters text = new Letters();
-    private final Reader reader = new Reader(text);
+    private final Reader reader = new Reader();
+    private final Letters text = reader.text;
     private final Told told = new Told();
     private final Winter now = new Winter();
     private final Past past = new Past();
@@ -608,15 +608,11 @@ public final class ParishCoat {
 
     /** Reads THE TEXT token by token, doing its clauses on a draft of what is told. */
     private static final class Reader {
+        final Letters text = new Letters();
         final Told draft = new Told();
         int clauses;
-        private final Letters text;
         private int start;
         private int end;
-
-        Reader(Letters text) {
-            this.text = text;
-        }
 
         /** The place of the FAULT, or NONE; the draft is worth something only behind NONE. */
         int read(Told from) {
